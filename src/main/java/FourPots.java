@@ -375,7 +375,7 @@ public final class FourPots {
         if (!here().hasSet(goal)) {
             return refuse(STATUS_NUMBER);
         }
-        fewestPots.use(here(), here().allDishes());
+        fewestPots.use(here(), here().allDishes(), here().leastBound(goal));
         return found(fewestPots.seekPots(goal));
     }
 
@@ -395,7 +395,7 @@ public final class FourPots {
         if (Integer.bitCount(scope) > MOST_TRUSTFUL) {
             return refuse(STATUS_TOO_MANY);
         }
-        fewestTrusting.use(here(), scope);
+        fewestTrusting.use(here(), scope, Integer.bitCount(goal));
         return found(fewestTrusting.seekPots(goal));
     }
 
@@ -1962,18 +1962,19 @@ public final class FourPots {
             for (int i = settled - 1; i >= 0; i--) {
                 int set = order[i];
                 if (key[set] < least) {
-                    onPath[set] = firstOnPath(set) != NONE;
+                    onPath[set] = firstOnPath(set, least) != NONE;
                 } else {
                     onPath[set] = key[set] == least && (set & goal) == goal;
                 }
             }
         }
 
-        /** Of the moves that are listed then, the first one along a cheapest way. */
-        private int firstOnPath(int set) {
+        /** Of the moves listed, the first along a cheapest way; dearer sets may bear an older call's sign. */
+        private int firstOnPath(int set, int least) {
             listMoves(set);
             for (int i = 0; i < moves; i++) {
-                if (key[moveTo[i]] == key[set] + movePrice[i] && onPath[moveTo[i]]) {
+                int price = key[set] + movePrice[i];
+                if (price <= least && key[moveTo[i]] == price && onPath[moveTo[i]]) {
                     return i;
                 }
             }
@@ -1988,7 +1989,7 @@ public final class FourPots {
             pathLength = 0;
             int set = 0;
             for (int i = 0; i < length; i++) {
-                int move = firstOnPath(set);
+                int move = firstOnPath(set, least);
                 if (move == NONE) {
                     return;
                 }
@@ -2011,6 +2012,7 @@ public final class FourPots {
         private Menu menu;
         private int stamp = NONE;
         private int scope = NONE;
+        private int fromPots;
         /** Sets found: what is MADE, and above it what is TRUSTED; and with how many POTS. */
         private int[] order = new int[0];
         private int[] level = new int[0];
@@ -2027,13 +2029,15 @@ public final class FourPots {
             this.trusting = trusting;
         }
 
-        void use(Menu asked, int dishes) {
+        /** Fewer POTS than least are not tried: no GOAL that is sought then can do with fewer. */
+        void use(Menu asked, int dishes, int least) {
             menu = asked;
-            if (stamp == asked.stamp && scope == dishes) {
+            if (stamp == asked.stamp && scope == dishes && least >= fromPots) {
                 return;
             }
             stamp = asked.stamp;
             scope = dishes;
+            fromPots = least;
             weigh();
             if (order.length < states) {
                 order = new int[states];
@@ -2045,7 +2049,7 @@ public final class FourPots {
             }
             found = 0;
             next = 0;
-            pots = 0;
+            pots = least;
             add(0, 0);
         }
 
@@ -2109,7 +2113,7 @@ public final class FourPots {
             int made = order[i] % ALL_SETS;
             int trusted = order[i] / ALL_SETS;
             int free = pots - Integer.bitCount(made | trusted);
-            // What was known with fewer POTS has new ways only where the last POT is needed.
+            // What was known with fewer POTS has new ways only where the last POT is taken.
             if (level[i] < pots && free > 2) {
                 return;
             }
