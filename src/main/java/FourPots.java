@@ -141,7 +141,7 @@ public final class FourPots {
     // ---- TRAYS
 
     public boolean tray(int tray, int sort, int many) {
-        boolean can = trays.isTray(tray) && trays.isTray(sort) && many >= 0 && many <= Trays.LONGEST;
+        boolean can = trays.isTray(tray) && trays.isSort(sort) && many >= 0 && many <= Trays.LONGEST;
         if (!can) {
             return denied(STATUS_NUMBER);
         }
@@ -576,6 +576,7 @@ public final class FourPots {
 
     private static final class Trays {
         private static final int COUNT = 4;
+        private static final int SORTS = 4;
         private static final int LONGEST = 60;
 
         private final long[][] rows = new long[COUNT][LONGEST];
@@ -583,9 +584,12 @@ public final class FourPots {
         /** NONE for a TRAY that is MISSING. */
         private final int[] lengths = {NONE, NONE, NONE, NONE};
 
-        /** There are as many sorts as TRAYS, so this asks after a sort, too. */
         boolean isTray(int tray) {
             return tray >= 0 && tray < COUNT;
+        }
+
+        boolean isSort(int sort) {
+            return sort >= 0 && sort < SORTS;
         }
 
         boolean isThere(int tray) {
@@ -1479,6 +1483,7 @@ public final class FourPots {
     private static final class Plan {
         private static final int MOST_STEPS = 30;
         private static final int DEEPEST = 3;
+        private static final int MOST_LOOPS = 99;
         private static final int MOST_DONE = 300;
         private static final int MOST_MET = 900;
 
@@ -1677,7 +1682,7 @@ public final class FourPots {
                 case STOP:
                     return true;
                 case LOOP:
-                    draft.first[step] = text.takeNumber(1, 99);
+                    draft.first[step] = text.takeNumber(1, Plan.MOST_LOOPS);
                     return draft.first[step] != NONE;
                 case WHEN:
                     return readTest(menu, step);
@@ -1728,7 +1733,7 @@ public final class FourPots {
     private static final class Least {
         /** A key is WORK times this and STEPS: no set comes twice on a way, so STEPS stay below it. */
         private static final int KEY_STEP = ALL_SETS;
-        private static final int FAR = Integer.MAX_VALUE;
+        private static final int FAR = 2147483647;
         private static final int KITCHEN = 100;
         /** Makes, pours (of DISHES that do not STAND over such that do) and washes of one set. */
         private static final int MOST_MOVES = 12 + 36 + 12;
@@ -2242,7 +2247,7 @@ public final class FourPots {
         }
 
         private void add(int set) {
-            if (seen[set]) {
+            if (seen[set] || found >= order.length) {
                 return;
             }
             seen[set] = true;
@@ -2252,7 +2257,7 @@ public final class FourPots {
         }
 
         private void washFrom(int from) {
-            for (int i = from; i < found; i++) {
+            for (int i = from; i < order.length && i < found; i++) {
                 for (int d = 0; d < menu.count; d++) {
                     if ((order[i] & 1 << d) != 0) {
                         add(order[i] & ~(1 << d));

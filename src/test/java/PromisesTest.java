@@ -331,6 +331,10 @@ public final class PromisesTest {
         menuFault("dish a work x ,", 2, 12);
         menuFault("dish 12345", 1, 5);
         menuFault("dish a 1;", 2, 7);
+        menuFault("dish a;", 2, 6);
+        menuFault("dish a size 1;", 2, 7);
+        menuFault("dish a work;", 2, 11);
+        menuFault(";".repeat(900), 2, 0);
         menuFault("dish a work 1 keeps 2 size 1;", 2, 22);
         menuFault("dish a work 1 burns 2 keeps 1;", 2, 22);
         menuFault("dish a work 1 from ;", 2, 19);
@@ -365,6 +369,7 @@ public final class PromisesTest {
         menuFault("dish a work 1;dish b work 1 from a;dish c work 1 from b;pair a c;", 5, 63);
         menuFault("dish a work 1;dish b work 1 from a;dish c work 1 from b;pair c a;", 5, 63);
         menuFault("pots 1 1 1 1 1 1 1 1 1;", 6, 21);
+        menuFault("pots 9 9 9 9 9 9 9 9 9;", 6, 21);
         menuFault(dishes(12) + "dish", 6, 12 * 15);
         menuFault("dish a work 1 poured;", 7, 14);
         goodMenu(dishes(12) + "pots 1 1 1 1 1 1 1 1;", 12);
@@ -476,6 +481,9 @@ public final class PromisesTest {
         no("fits(-1)", x.fits(-1), 1);
         kitchen("dish a work 1;");
         good("fits(1) without pots", x.fits(1), 0);
+        kitchen("pots 8 9 8;dish a work 1 size 9;dish b work 1 size 9;dish c work 1 size 8;");
+        good("fits(5)", x.fits(5), 1);
+        good("fits(3), one is as big", x.fits(3), 0);
     }
 
     private static void setIsNeeded() {
@@ -675,6 +683,15 @@ public final class PromisesTest {
         good("first(213)", x.first(213), 7);
     }
 
+    /** As above, but the pour is without work, too: of as much work the fewer steps. */
+    private static void fewerSteps() {
+        kitchen("pots 1 1 1 1 1 1;dish a work 1;dish p work 1 once;pair a p;dish b work 1;dish q work 1 once;pair b q;"
+                + "dish c work 1;dish r work 1 once;pair c r;dish d work 1;dish e work 1;"
+                + "dish k work 0 from p q r poured;");
+        good("first(213)", x.first(213), 6);
+        path(m(0), m(2), m(4), p(8, 1), m(6), m(7));
+    }
+
     private static void path(int... codes) {
         for (int i = 0; i < codes.length; i++) {
             int kind = codes[i] / 1000;
@@ -702,6 +719,7 @@ public final class PromisesTest {
     }
 
     private static void firstOfLeast() {
+        fewerSteps();
         kitchen("pots 1 1 1;" + TWICE);
         good("first(16)", x.first(16), 9);
         path(m(0), m(1), m(2), w(0), m(3), w(1), m(0), w(2), m(4));
