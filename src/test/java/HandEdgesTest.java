@@ -298,6 +298,13 @@ public final class HandEdgesTest extends Edges {
         good(x.pourOver(1, 0), 10);
     }
 
+    private static void pourOver19OverOneOfAPair() {
+        sentence(19, "it is poured, in no PAIR");
+        kitchen(EIGHT + "dish a work 1;dish b work 1;pair a b;dish c work 1 from a poured;");
+        x.make(0);
+        good(x.pourOver(2, 0), 6);
+    }
+
     private static void pourOver19InAFullKitchen() {
         sentence(19, "the other one is gone, the DISH STANDS");
         kitchen("pots 1 1;dish a work 1;dish b work 1;dish c work 1 from a b poured;");

@@ -176,6 +176,15 @@ public final class LeastEdgesTest extends Edges {
         good(x.steps(4), 3);
     }
 
+    private static void steps26PouredOnlyOverWhatItNeeds() {
+        sentence(26, "by MAKING, POURING, WASHING alone");
+        // Were c poured over x, it would be four.
+        kitchen("pots 1 1 1;dish x work 1;dish d work 1 from x;dish a work 1;dish c work 1 from a poured;");
+        good(x.steps(2 + 4 + 8), 5);
+        good(x.first(2 + 4 + 8), 5);
+        path(m(0), m(1), m(2), w(0), m(3));
+    }
+
     private static void steps26WhateverTheWork() {
         sentence(26, "LEAST STEPS");
         kitchen("pots 1 1 1 1 1 1;dish a work 1;dish p work 1 once;pair a p;dish b work 1;dish q work 1 once;pair b q;"
@@ -284,6 +293,13 @@ public final class LeastEdgesTest extends Edges {
         path(m(0), m(1), m(2), w(0), m(3), w(1), m(4));
     }
 
+    private static void first27WashTheLastOfAll() {
+        sentence(27, "then to WASH by number.");
+        kitchen("pots 1 1;dish a work 1;dish b work 1;dish c work 1;pair a c;");
+        good(x.first(3), 3);
+        path(m(0), w(2), m(1));
+    }
+
     private static void first27ThenAsFewSteps() {
         sentence(27, FIRST);
         // Of p, q, r two must go: two washes, or one pour without work of a dish that is not needed.
@@ -381,9 +397,12 @@ public final class LeastEdgesTest extends Edges {
         yes(x.again(16));
         good(x.firstAt(8, 1), 4);
         good(x.first(1), 1);
-        no(x.firstAt(1, 1), 6);
+        for (int k = 1; k < 10; k++) {
+            no(x.firstAt(k, 1), 6);
+        }
         good(x.first(0), 0);
         no(x.firstAt(0, 0), 6);
+        no(x.firstAt(1, 0), 6);
     }
 
     private static void firstAt28BehindAnotherMenu() {
@@ -446,6 +465,23 @@ public final class LeastEdgesTest extends Edges {
         kitchen(EITHER);
         no(x.fewest(3), 6);
         no(x.fewest(1), 6);
+    }
+
+    private static void fewest29WashedOneByOne() {
+        sentence(29, FEWEST);
+        // b stands beside d when a is washed: to make it again of p, q and r a fifth would be needed.
+        kitchen("dish p work 1;dish q work 1;dish r work 1;dish b work 1 from p q r;dish a work 1;dish c work 1;"
+            + "dish d work 1 from a b;dish e work 1 from b c;dish f work 1 from d e;");
+        good(x.fewest(256), 4);
+        good(x.fewest(128 + 64), 4);
+    }
+
+    private static void fewest29PouredOnlyOverWhatStands() {
+        sentence(29, FEWEST);
+        kitchen("dish o work 1;dish a work 1;dish b work 1;dish c work 1 from a b poured;");
+        good(x.fewest(8), 2);
+        good(x.fewest(8 + 2), 2);
+        good(x.fewest(8 + 4 + 2), 3);
     }
 
     private static void fewest29ManyAsksInAnyOrder() {
@@ -565,6 +601,35 @@ public final class LeastEdgesTest extends Edges {
         good(x.trustful(128), 4);
         kitchen(menu + "dish k work 1 from t;");
         good(x.trustful(128), 4);
+    }
+
+    private static void trustful31ShownByWhatItNeeds() {
+        sentence(31, "if DISHES may be TRUSTED and SHOWN, too");
+        // u is trusted, g made of it, u shown by t: its partner, which needs three, is never made.
+        kitchen("dish t work 1;dish x work 1;dish y work 1;dish z work 1;dish u work 1 from t;dish w work 1 from x y z;"
+            + "pair u w;dish g work 1 from u;");
+        good(x.fewest(64), 6);
+        good(x.trustful(64), 3);
+        good(x.trustful(16), 6);
+    }
+
+    private static void trustful31BehindAPourTheTrustedStay() {
+        sentence(31, "and behind it all nothing that is TRUSTED STANDS");
+        kitchen("dish p work 1;dish q work 1;dish r work 1;dish a work 1 from p q r;dish b work 1;"
+            + "dish c work 1 from a b poured;");
+        good(x.trustful(32), 4);
+    }
+
+    private static void trustful31WhatIsTrustedNeedsAPot() {
+        sentence(31, TRUSTFUL);
+        kitchen("dish x work 1;dish t work 1 once;dish c work 1 from x t poured;");
+        good(x.trustful(4), 2);
+        // Once x is made of p and q in three pots, t is made of a, and then u is trusted in the last pot.
+        kitchen("dish p work 1;dish q work 1;dish x work 1 from p q;dish a work 1;dish t work 1 from a once;dish e work 1;"
+            + "dish u work 1 from e once;dish c work 1 from x t u poured;");
+        good(x.needed(128), 255);
+        good(x.trustful(128), 3);
+        good(x.fewest(128), 4);
     }
 
     private static void trustful31OfSizeNine() {
@@ -798,6 +863,13 @@ public final class LeastEdgesTest extends Edges {
         good(x.rounds(8 + 16 + 32 + 64, 1), 7);
     }
 
+    private static void rounds34SomeAreWashedAndSomeNot() {
+        sentence(34, "between ROUNDS as much is WASHED as one likes");
+        kitchen("pots 1 1 1;dish j work 1;dish k work 1 from j;dish l work 1 from j;dish m work 1;");
+        good(x.rounds(2 + 4 + 8, 2), 3);
+        good(x.rounds(2 + 4 + 8, 1), 4);
+    }
+
     private static void rounds34NeverOneOfAPair() {
         sentence(34, "a GOAL is reached that has a DISH in a PAIR never");
         kitchen(EIGHT + "dish a work 1;dish b work 1;pair a b;dish c work 1 from a;dish d work 1;");
@@ -806,6 +878,11 @@ public final class LeastEdgesTest extends Edges {
         no(x.rounds(8 + 1, 4), 6);
         no(x.rounds(4, 4), 6);
         good(x.rounds(8, 4), 1);
+        kitchen(EIGHT + "dish a work 1;dish b work 1;dish c work 1;dish d work 1;pair a c;");
+        no(x.rounds(1, 4), 6);
+        no(x.rounds(4, 4), 6);
+        no(x.rounds(5, 4), 6);
+        good(x.rounds(10, 4), 1);
     }
 
     private static void rounds34NothingIsPoured() {
@@ -867,6 +944,20 @@ public final class LeastEdgesTest extends Edges {
         good(x.spared(256, 1), 0);
         told(1, 8);
         good(x.work(512), 19);
+    }
+
+    private static void spared35OneAndNoMore() {
+        sentence(35, "one POT more of a size");
+        // With 3 POTS a and b must be made again, with 4 only b, with 5 none.
+        String menu = "dish a work 5;dish b work 2;dish c work 1 from b;dish d work 1 from a;dish e work 1 from c d;"
+                + "dish f work 1 from a e;dish g work 1 from b f;";
+        int[] least = {19, 14, 12, 12};
+        for (int pots = 3; pots <= 5; pots++) {
+            kitchen("pots" + " 1".repeat(pots) + ";" + menu);
+            good(x.work(64), least[pots - 3]);
+            good(x.spared(64, 1), least[pots - 3] - least[pots - 2]);
+            good(x.spared(64, 9), least[pots - 3] - least[pots - 2]);
+        }
     }
 
     private static void spared35ToNothing() {

@@ -77,6 +77,22 @@ public final class MenuEdgesTest extends Edges {
         told(0, 0);
     }
 
+    private static void menu10BytesBehindTheFirstAreNotSeen() {
+        sentence(10, "The first n bytes of the tape (which is empty then) are the MENU");
+        feedText("dish ab work 12;");
+        no(x.menu(6), 9);
+        due(x.fault(0), 2);
+        due(x.fault(1), 6);
+        feedText("pots 12;");
+        no(x.menu(6), 9);
+        due(x.fault(0), 2);
+        due(x.fault(1), 6);
+        feedText("dish a work 1;;;;;;");
+        good(x.menu(14), 1);
+        feedText("pots 1;      ,,,,,");
+        good(x.menu(13), 0);
+    }
+
     private static void menu10OfNoBytes() {
         sentence(10, "The first n bytes of the tape (which is empty then) are the MENU");
         kitchen("pots 1;dish a work 1;");
@@ -107,6 +123,15 @@ public final class MenuEdgesTest extends Edges {
         feedText(text);
         no(x.menu(901), 1);
         good(x.menu(900), 1);
+    }
+
+    private static void menu10AsManyTokensAsBytes() {
+        sentence(10, "A MENU is a TEXT of at most 900 bytes.");
+        menuFault("^" + ";1".repeat(450), 2);
+        menuFault("^" + "1;".repeat(450), 2);
+        x = new FourPots();
+        menuFault("^" + ";a".repeat(450), 2);
+        menuFault("^" + "?".repeat(900), 1);
     }
 
     private static void menu10WithAFaultTheTapeIsEmptyToo() {
@@ -801,6 +826,25 @@ public final class MenuEdgesTest extends Edges {
         good(x.fits(1 + 16 + 64), 1);
         good(x.fits(16 + 64 + 128), 0);
         good(x.fits(1 + 2 + 8 + 16), 0);
+    }
+
+    /** Of each of the nine sizes there are too few pots, and of the biggest one none at all. */
+    private static void fits16AllNineSizesAtOnce() {
+        sentence(16, "for each size");
+        StringBuilder menu = new StringBuilder("pots 8 8 8;");
+        for (int d = 0; d < 12; d++) {
+            menu.append("dish ").append((char) ('a' + d)).append(" work 1 size ").append(Math.min(d + 1, 9)).append(';');
+        }
+        kitchen(menu.toString());
+        good(x.fits(256), 0);
+        good(x.fits(2048), 0);
+        good(x.fits(128), 1);
+        good(x.fits(1 + 64 + 128), 1);
+        good(x.fits(1 + 32 + 64 + 128), 0);
+        for (int small = 0; small < 8; small++) {
+            good(x.fits(1 << small | 512), 0);
+            good(x.fits(1 << small), 1);
+        }
     }
 
     private static void fits16WhateverStandsByHand() {

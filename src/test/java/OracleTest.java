@@ -1039,6 +1039,22 @@ public final class OracleTest {
         return s.toString();
     }
 
+    /** Few pots, and works far apart: what is dear is kept, and what is cheap is made again and again. */
+    private static String drawTightMenu(Random r) {
+        int n = 7 + r.nextInt(3);
+        StringBuilder s = new StringBuilder("pots").append(" 1".repeat(3 + r.nextInt(3))).append(';');
+        for (int d = 0; d < n; d++) {
+            s.append("dish ").append((char) ('a' + d)).append(" work ").append(r.nextInt(r.nextBoolean() ? 4 : 100));
+            Set<Integer> needs = new HashSet<>();
+            for (int i = 0; i < 3 && d > 1; i++) needs.add(r.nextBoolean() ? d - 1 - r.nextInt(2) : r.nextInt(d));
+            if (needs.size() > 2 && r.nextInt(3) > 0) needs.remove(needs.iterator().next());
+            s.append(needs.isEmpty() ? "" : " from");
+            for (int e : needs) s.append(' ').append((char) ('a' + e));
+            s.append(!needs.isEmpty() && r.nextInt(4) == 0 ? " poured" : "").append(r.nextInt(9) == 0 ? " once;" : ";");
+        }
+        return s.toString();
+    }
+
     private static String drawPots(Random r, boolean plain) {
         if (r.nextInt(12) == 0) return "";
         StringBuilder s = new StringBuilder("pots");
@@ -1392,12 +1408,27 @@ public final class OracleTest {
         return !run.wrong;
     }
 
+    private static boolean runTight(long seed) {
+        Random r = new Random(seed);
+        Run run = new Run();
+        run.takeMenu(drawTightMenu(r));
+        int n = run.m.now.dishes.size();
+        while (run.calls < 400 && !run.wrong) drawLeast(r, run, drawSet(r, n), n);
+        if (run.wrong) {
+            System.out.println("tight, seed " + seed + ":\n" + run.log);
+        }
+        return !run.wrong;
+    }
+
     public static void main(String[] args) {
         int many = args.length > 0 ? Integer.parseInt(args[0]) : 400;
         int largest = args.length > 1 ? Integer.parseInt(args[1]) : 6;
         long from = args.length > 2 ? Long.parseLong(args[2]) : 1;
         for (long seed = from; seed < from + many; seed++) {
             if (!runOnce(seed, largest)) System.exit(1);
+        }
+        for (long seed = from; seed < from + many / 4; seed++) {
+            if (!runTight(seed)) System.exit(1);
         }
         if (args.length == 0) {
             for (long seed = 1; seed <= 6; seed++) {

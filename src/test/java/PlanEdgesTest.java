@@ -427,6 +427,25 @@ public final class PlanEdgesTest extends Edges {
         }
     }
 
+    private static void cook37BurnsOneOfSixteen() {
+        sentence(37, "if it BURNS at all: less than BURNS: it is not there");
+        kitchen("pots 1 1;dish a work 1 burns 1;dish b work 1 burns 14;");
+        int nought = 0;
+        while (next(nought) / 8 % 16 != 0) {
+            nought++;
+        }
+        int one = 0;
+        while (next(one) / 8 % 16 != 1) {
+            one++;
+        }
+        planned("make a;");
+        good(x.cook(nought), 0);
+        good(x.cook(one), 1);
+        // The draws of seed 0 are 14 and 1: the first is for a.
+        planned("make a;make b;");
+        good(x.cook(0), 1);
+    }
+
     private static int next(int s) {
         return (int) ((s * 2903L + 8819) % 65536);
     }
@@ -548,6 +567,14 @@ public final class PlanEdgesTest extends Edges {
         good(x.cooked(1), 0);
         planned("when full 0;make a;when full 2;make b;end;end;make c;");
         good(x.cook(NONE), 5);
+    }
+
+    private static void cook37WithinAWhenOnce() {
+        sentence(37, "the STEPS up to its end are done.");
+        kitchen("pots 1 1 1;dish a work 1;dish b work 1;dish c work 1;");
+        planned("when full 0;make a;when stands a;make b;wash b;end;end;when full 1;make c;end;");
+        good(x.cook(NONE), 5);
+        dueCooked(3, 4, 0, 2, 0, 0, 0);
     }
 
     private static void cook37LoopAsOften() {
