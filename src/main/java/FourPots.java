@@ -1989,11 +1989,12 @@ public final class FourPots {
         private void walkPath(int least) {
             int length = least % KEY_STEP;
             if (path.length < length) {
-                path = new int[length];
+                // As long as any way in this kitchen, so that longer and longer ones do not make a row each.
+                path = new int[key.length];
             }
             pathLength = 0;
             int set = 0;
-            for (int i = 0; i < length; i++) {
+            for (int i = 0; i < length && i < path.length; i++) {
                 int move = firstOnPath(set, least);
                 if (move == NONE) {
                     return;

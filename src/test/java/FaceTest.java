@@ -99,6 +99,7 @@ public final class FaceTest {
             expect(!Pattern.compile("\\b" + word + "\\b").matcher(code).find(), "no " + word);
         }
         expect(!code.contains("->") && !code.contains("::"), "no lambda, no method reference");
+        expect(!Pattern.compile("static\\s*\\{").matcher(code).find(), "no static initialiser block");
         expect(!code.contains("Exact("), "no function whose name ends in Exact");
         expect(!code.contains("\" +") && !code.contains("+ \""), "texts are not joined by +");
         Matcher imports = Pattern.compile("import ([^;]*);").matcher(code);
